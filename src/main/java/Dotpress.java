@@ -713,7 +713,8 @@ public final class Dotpress {
             boolean isOther = false;
             fresh.empty();
             for (int word = 0; word < typed.count(); word++) {
-                rules.translate(typed.uncut(), typed.startOf(word), typed.endOf(word), grade, fresh);
+                rules.translate(
+                        typed.uncut(), typed.startOf(word), typed.endOf(word), grade, fresh);
                 fresh.cut();
                 if (!fresh.shares(word, cells)) {
                     isOther = true;
@@ -778,7 +779,7 @@ public final class Dotpress {
             return firstLines.get(word);
         }
 
-        /** Whether the line is another one than that embossed last, or is there on one side only. */
+        /** Whether the line is not the same as that embossed last, or only one of them is there. */
         boolean isOther(int line) {
             return !laid.shares(line, embossed);
         }

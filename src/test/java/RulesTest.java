@@ -18,6 +18,7 @@ final class RulesTest {
         mendCountsTextsWithOtherCells();
         mendTakesOnlyItsRanges();
         removeRuleTakesOneAway();
+        removeRuleLeavesTheOthers();
         ruleAtTellsLetters();
         turnExceptionTurns();
         exceptionsUseSingleLetters();
@@ -46,7 +47,8 @@ final class RulesTest {
         Check.same("P2 first letter", house.type('a'), 1);
         Check.same("P2 last letter", house.type('z'), 2);
         Check.same("P2 blank", house.type(' '), 3);
-        for (char other : new char[] {'A', 'Z', '`', '{', '0', '-', '\t', '\n', 0, 31, 33, 228, 65535}) {
+        char[] others = {'A', 'Z', '`', '{', '0', '-', '\t', '\n', 0, 31, 33, 228, 65535};
+        for (char other : others) {
             Check.refuses("P2 sign " + (int) other, IllegalArgumentException.class,
                     () -> house.type(other));
         }
@@ -94,7 +96,8 @@ final class RulesTest {
         Dotpress house = new Dotpress();
         Check.typeAll(house, "a");
         int[][] others = {{0, 1, 0}, {3, 1, 0}, {-1, 1, 0}, {1, 0, 0}, {1, 64, 0}, {1, -1, 0},
-            {1, 1, -1}, {1, 1, 64}, {1, 0, 5}, {Integer.MAX_VALUE, 1, 0}, {1, Integer.MIN_VALUE, 0}};
+            {1, 1, -1}, {1, 1, 64}, {1, 0, 5}, {Integer.MAX_VALUE, 1, 0},
+            {1, Integer.MIN_VALUE, 0}};
         for (int[] o : others) {
             Check.refuses("P4 " + o[0] + " " + o[1] + " " + o[2], IllegalArgumentException.class,
                     () -> house.addRule(o[0], o[1], o[2]));
@@ -222,6 +225,22 @@ final class RulesTest {
         Check.same("P6 none is left", house.removeRule(0), 0);
         Check.same("P6 no rules", Check.cellsOf(house, 0, 0), "63,63,63,63");
         Check.refuses("P6 none", IndexOutOfBoundsException.class, () -> house.removeRule(0));
+    }
+
+    private static void removeRuleLeavesTheOthers() {
+        Dotpress house = new Dotpress();
+        Check.addRule(house, "a", 1, 1, 0);
+        Check.addRule(house, "b", 2, 2, 0);
+        Check.addRule(house, "c", 1, 3, 4);
+        Check.addRule(house, "d", 2, 5, 6);
+        Check.setText(house, 0, 1, "abcd");
+        Check.setText(house, 1, 2, "abcd");
+        house.removeRule(0);
+        Check.same("P6 grade 1", Check.cellsOf(house, 0, 0), "63,63,3,4,63");
+        Check.same("P6 grade 2", Check.cellsOf(house, 1, 0), "63,2,3,4,5,6");
+        house.removeRule(1);
+        Check.same("P6 grade 1 again", Check.cellsOf(house, 0, 0), "63,63,63,63");
+        Check.same("P6 grade 2 again", Check.cellsOf(house, 1, 0), "63,2,63,5,6");
     }
 
     private static void ruleAtTellsLetters() {

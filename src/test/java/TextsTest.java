@@ -53,6 +53,9 @@ final class TextsTest {
         Check.same("P9 the letters stay", house.setText(0, 2), 1);
         Check.refuses("P9 only one was made", IndexOutOfBoundsException.class,
                 () -> house.words(1));
+        Check.refuses("P9 beyond the next", IndexOutOfBoundsException.class,
+                () -> house.setText(2, 1));
+        Check.same("P9 the next", house.setText(1, 1), 0);
     }
 
     private static void setTextStopsAtSix() {
@@ -62,6 +65,7 @@ final class TextsTest {
         }
         Check.refuses("P9 a seventh", IndexOutOfBoundsException.class, () -> house.setText(6, 1));
         Check.refuses("P9 an eighth", IndexOutOfBoundsException.class, () -> house.setText(7, 3));
+        Check.refuses("P11 a seventh", IndexOutOfBoundsException.class, () -> house.words(6));
         Check.same("P9 the sixth anew", Check.setText(house, 5, 1, "a"), 1);
         Check.same("P9 the first stays", house.words(0), 2);
     }
@@ -123,7 +127,8 @@ final class TextsTest {
         Check.addRule(house, "c", 1, 5, 0);
         Check.addRule(house, "bcd", 1, 6, 0);
         Check.setText(house, 0, 1, "abcd abc abca aabcdab abcdabcd bcab ab cd zbcd");
-        String[] due = {"4", "2,3,5", "2,3,5,1", "1,4,2,3", "4,4", "63,5,2,3", "2,3", "5,63", "63,6"};
+        String[] due =
+            {"4", "2,3,5", "2,3,5,1", "1,4,2,3", "4,4", "63,5,2,3", "2,3", "5,63", "63,6"};
         for (int word = 0; word < due.length; word++) {
             Check.same("P13 word " + word, Check.cellsOf(house, 0, word), due[word]);
         }
@@ -209,11 +214,14 @@ final class TextsTest {
         Check.setText(house, 0, 1, "b aaaaaaaaa bbbbbb b");
         Check.same("P15 long", Check.linesOf(house, 0), "2|1,1,1,1,1,1,1,1|1,0,2,2,2,2,2,2|2");
         Check.setText(house, 0, 1, "aaaaaaaaaaaaaaaa b");
-        Check.same("P15 two full lines", Check.linesOf(house, 0), "1,1,1,1,1,1,1,1|1,1,1,1,1,1,1,1|2");
+        Check.same("P15 two full lines", Check.linesOf(house, 0),
+                "1,1,1,1,1,1,1,1|1,1,1,1,1,1,1,1|2");
         Check.setText(house, 0, 1, "aaaaaaaaaaaaaa b");
-        Check.same("P15 just room behind", Check.linesOf(house, 0), "1,1,1,1,1,1,1,1|1,1,1,1,1,1,0,2");
+        Check.same("P15 just room behind", Check.linesOf(house, 0),
+                "1,1,1,1,1,1,1,1|1,1,1,1,1,1,0,2");
         Check.setText(house, 0, 1, "aaaaaaaaaaaaaaa b");
-        Check.same("P15 no room behind", Check.linesOf(house, 0), "1,1,1,1,1,1,1,1|1,1,1,1,1,1,1|2");
+        Check.same("P15 no room behind", Check.linesOf(house, 0),
+                "1,1,1,1,1,1,1,1|1,1,1,1,1,1,1|2");
         Check.mend(house, "a", 1, 1, 1);
         Check.setText(house, 0, 1, "a".repeat(80));
         Check.same("P14 160 cells", house.lines(0), 20);
