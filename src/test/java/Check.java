@@ -66,7 +66,8 @@ final class Check {
     /** The cells of a word, joined by commas. */
     static String cellsOf(Dotpress house, int text, int word) {
         StringBuilder cells = new StringBuilder();
-        for (int i = 0; i < house.length(text, word); i++) {
+        int size = house.length(text, word);
+        for (int i = 0; i < size; i++) {
             cells.append(i == 0 ? "" : ",").append(house.cellOf(text, word, i));
         }
         return cells.toString();
