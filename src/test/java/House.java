@@ -11,7 +11,9 @@ enum House {
     WORDLESS {
         @Override
         void fill(Dotpress house) {
-            Check.addRule(house, "a", 1, 1, 0);
+            for (int i = 0; i < 4; i++) {
+                Check.addRule(house, fullRule(i), 1, 1 + i, 0);
+            }
             Check.turnException(house, "ab");
             Check.setText(house, 0, 1, "a ab");
             house.emboss(0);
@@ -57,6 +59,28 @@ enum House {
             house.mark(1, 0, 0, true);
             house.mark(0, 0, 2, false);
             house.mark(1, 1, 1, false);
+        }
+    },
+
+    /** The rules alone are full. */
+    RULED {
+        @Override
+        void fill(Dotpress house) {
+            for (int i = 0; i < 40; i++) {
+                Check.addRule(house, fullRule(i), 1 + i % 2, 1 + i, 0);
+            }
+            Check.setText(house, 0, 1, "a za");
+        }
+    },
+
+    /** The exceptions alone are full. */
+    EXCEPTED {
+        @Override
+        void fill(Dotpress house) {
+            for (int i = 0; i < 20; i++) {
+                Check.turnException(house, fullException(i));
+            }
+            Check.setText(house, 0, 1, "xa b");
         }
     },
 

@@ -94,17 +94,17 @@ final class RefusalTest {
 
     private static int rulesOf(House house) {
         return switch (house) {
-            case NEW -> 0;
-            case WORDLESS -> 1;
+            case NEW, EXCEPTED -> 0;
             case WORN -> 2;
-            case USED -> 4;
-            case FULL -> 40;
+            case WORDLESS, USED -> 4;
+            case RULED, FULL -> 40;
         };
     }
 
     private static int textsOf(House house) {
         return switch (house) {
             case NEW -> 0;
+            case RULED, EXCEPTED -> 1;
             case WORDLESS, WORN -> 2;
             case USED -> 3;
             case FULL -> 6;
@@ -168,6 +168,7 @@ final class RefusalTest {
     private static void addRuleRefusesTheFortyFirst() {
         for (String letters : new String[] {"aa", "zo", "zzzz", "bbbb"}) {
             refuse(4, House.FULL, letters, STATE, h -> h.addRule(1, 1, 0));
+            refuse(4, House.RULED, letters, STATE, h -> h.addRule(1, 1, 0));
         }
     }
 
@@ -269,6 +270,7 @@ final class RefusalTest {
     private static void turnExceptionRefusesTheTwentyFirst() {
         for (String letters : new String[] {"new", "x", "xu", "xaa", "zb", "z".repeat(80)}) {
             refuse(8, House.FULL, letters, STATE, h -> h.turnException());
+            refuse(8, House.EXCEPTED, letters, STATE, h -> h.turnException());
         }
     }
 
