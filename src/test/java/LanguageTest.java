@@ -16,40 +16,18 @@ import java.util.stream.Collectors;
 /** The face that the document tells, and those rules of LANGUAGE.md that can be looked up. */
 final class LanguageTest {
     private static final Path SOURCE = Path.of("src/main/java/Dotpress.java");
-    private static final String FACE = """
-        int type(char) IllegalArgumentException IllegalStateException
-        int clear()
-        int addRule(int,int,int) IllegalArgumentException IllegalStateException UnsupportedOperationException
-        int mend(int,int,int) IllegalArgumentException NoSuchElementException
-        int removeRule(int) IndexOutOfBoundsException
-        char ruleAt(int,int) IndexOutOfBoundsException NoSuchElementException
-        boolean turnException() IllegalArgumentException IllegalStateException
-        int setText(int,int) IndexOutOfBoundsException IllegalArgumentException
-        int setWidth(int) IllegalArgumentException
-        int words(int) IndexOutOfBoundsException
-        int length(int,int) IndexOutOfBoundsException
-        int cellOf(int,int,int) IndexOutOfBoundsException NoSuchElementException
-        int lines(int) IndexOutOfBoundsException
-        int lineAt(int,int,int) IndexOutOfBoundsException NoSuchElementException
-        int lineOf(int,int) IndexOutOfBoundsException
-        int emboss(int) IndexOutOfBoundsException IllegalStateException
-        int changed(int) IndexOutOfBoundsException
-        int setBearing(int) IllegalArgumentException
-        int replace(int) IndexOutOfBoundsException
-        int strikes(int) IndexOutOfBoundsException
-        boolean mark(int,int,int,boolean) IndexOutOfBoundsException
-        char markOf(int,int,int) IndexOutOfBoundsException
-        long checksum()
-        float provedShare() ArithmeticException
-        double meanStrikes()
-        boolean isSound()
-        """;
     private static final List<String> LIBRARY = List.of("System.arraycopy", "Math.min", "Math.max");
 
     public static void main(String[] args) throws IOException {
-        faceIsTheDocuments();
+        Set<String> face = new TreeSet<>();
+        for (String line : Document.face()) {
+            face.add(lineOf(line));
+        }
+        Check.same("the document's constructor", face.remove("Dotpress()"), true);
+        faceIsTheDocuments(face);
+        promisesTellTheFace();
         nothingElseIsOpen();
-        noPrivateMethodBearsAPublicName();
+        noPrivateMethodBearsAPublicName(face);
         classesInsideAreFewAndStatic();
         fieldsAreFewAndStaticOnesFinal();
         String source = Files.readString(SOURCE);
@@ -59,14 +37,13 @@ final class LanguageTest {
         Check.end();
     }
 
-    private static void faceIsTheDocuments() {
+    private static void faceIsTheDocuments(Set<String> due) {
         Set<String> got = new TreeSet<>();
         for (Method method : Dotpress.class.getDeclaredMethods()) {
             if (!Modifier.isPrivate(method.getModifiers())) {
                 got.add(lineOf(method));
             }
         }
-        Set<String> due = new TreeSet<>(List.of(FACE.strip().split("\n")));
         Check.same("methods", String.join("\n", got), String.join("\n", due));
         int open = Dotpress.class.getModifiers();
         Check.same("class", Modifier.toString(open), "public final");
@@ -74,6 +51,25 @@ final class LanguageTest {
         Constructor<?>[] constructors = Dotpress.class.getDeclaredConstructors();
         Check.same("constructors", constructors.length, 1);
         Check.same("constructor", constructors[0].toString(), "public Dotpress()");
+    }
+
+    /** A method of the document's face, as the other lineOf tells one of the class. */
+    private static String lineOf(String told) {
+        String[] parts = told.replace("public ", "").replace(";", "").split(" throws ");
+        String head = parts[0].replaceAll("(\\w+) \\w+(?=[,)])", "$1").replace(", ", ",");
+        return parts.length == 1 ? head : head + " " + parts[1].replace(", ", " ");
+    }
+
+    private static void promisesTellTheFace() throws IOException {
+        Set<String> face = new TreeSet<>();
+        for (String line : Document.face()) {
+            face.add(line.replace("public ", "").replaceAll("( throws .*)?;", ""));
+        }
+        Set<String> promises = new TreeSet<>();
+        for (Document.Told told : Document.calls()) {
+            promises.add(told.head());
+        }
+        Check.same("promises", String.join("\n", promises), String.join("\n", face));
     }
 
     private static String lineOf(Method method) {
@@ -95,9 +91,9 @@ final class LanguageTest {
         }
     }
 
-    private static void noPrivateMethodBearsAPublicName() {
+    private static void noPrivateMethodBearsAPublicName(Set<String> face) {
         Set<String> names = new TreeSet<>();
-        for (String line : FACE.strip().split("\n")) {
+        for (String line : face) {
             names.add(line.split("[ (]")[1]);
         }
         for (Method method : Dotpress.class.getDeclaredMethods()) {

@@ -1,12 +1,8 @@
 import java.io.IOException;
-import java.nio.file.Files;
-import java.nio.file.Path;
 import java.util.Map;
 import java.util.NoSuchElementException;
 import java.util.Set;
 import java.util.TreeSet;
-import java.util.regex.Matcher;
-import java.util.regex.Pattern;
 
 /**
  * Each sentence of the document that begins with "Throws", and that of several exceptions the one
@@ -19,7 +15,6 @@ final class RefusalTest {
         void on(Dotpress house);
     }
 
-    private static final Path DOCUMENT = Path.of("../shared/DOC.md");
     private static final Class<IllegalArgumentException> ARGUMENT = IllegalArgumentException.class;
     private static final Class<IllegalStateException> STATE = IllegalStateException.class;
     private static final Class<IndexOutOfBoundsException> INDEX = IndexOutOfBoundsException.class;
@@ -423,14 +418,9 @@ final class RefusalTest {
     /** The sentences as the document has them now, each by its promise and its exception. */
     private static void everySentenceWasTried() throws IOException {
         Set<String> due = new TreeSet<>();
-        String promise = "";
-        for (String line : Files.readAllLines(DOCUMENT)) {
-            Matcher head = Pattern.compile("## Promise (\\d+):.*").matcher(line);
-            Matcher sentence = Pattern.compile("Throws `(\\w+)` .*").matcher(line);
-            if (head.matches()) {
-                promise = head.group(1);
-            } else if (sentence.matches()) {
-                due.add(promise + " " + sentence.group(1));
+        for (Document.Told told : Document.calls()) {
+            for (String sentence : told.throwing()) {
+                due.add(told.promise() + " " + sentence.replaceAll("`(\\w+)`.*", "$1"));
             }
         }
         Check.same("sentences tried", String.join(", ", TRIED), String.join(", ", due));
